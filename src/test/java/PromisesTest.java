@@ -28,6 +28,7 @@ public final class PromisesTest {
         promise19IsInformation();
         promise20InformationSets();
         promise21Orthogonal();
+        everyCodeHasTheWord0();
         codeIsTestedBeforeOtherArguments();
         refusedCallsChangeNothing();
         Checks.end();
@@ -154,6 +155,9 @@ public final class PromisesTest {
         dueWords("shorten(1, 2)", x, 1, "0");
         dueWords("shorten of code 1", x, 0, "0 6");
         due("shorten(1, 2) of 0", x.shorten(1, 2), 0);
+        Checks.addAll(x, 1, 1, 12);
+        due("shorten(1, 0) of 1, 12", x.shorten(1, 0), 1);
+        dueWords("shorten(1, 0) of 1, 12", x, 1, "0 12");
 
         LinearCodes all = new LinearCodes(10);
         all.dualize(0);
@@ -221,6 +225,13 @@ public final class PromisesTest {
         due("exchange(1, 2, 3) of zeros", x.exchange(1, 2, 3), 1);
         dueWords("exchange(1, 2, 3) of zeros", x, 1, "0 1");
 
+        LinearCodes ones = Checks.withCode(4, 15);
+        ones.add(1, 1);
+        due("exchange(0, 0, 1) of 15", ones.exchange(0, 0, 1), 1);
+        dueWords("exchange(0, 0, 1) of 15", ones, 0, "0 15");
+        due("exchange(1, 0, 3) of 1", ones.exchange(1, 0, 3), 1);
+        dueWords("exchange(1, 0, 3) of 1", ones, 1, "0 8");
+
         LinearCodes long10 = Checks.withCode(10, 1);
         due("exchange(0, 0, 9)", long10.exchange(0, 0, 9), 1);
         due("has(0, 512) then", long10.has(0, 512), 1);
@@ -252,6 +263,12 @@ public final class PromisesTest {
         due("meet() of all with 7", x.meet(), 1);
         dueWords("meet() of all with 7", x, 0, "0 7");
         dueWords("meet() of all with 7", x, 1, "0 7");
+
+        LinearCodes long10 = Checks.withCode(10, 1023, 1, 2);
+        Checks.addAll(long10, 1, 1022, 4);
+        due("meet() of 1023, 1, 2 with 1022, 4", long10.meet(), 1);
+        due("has(0, 1022) then", long10.has(0, 1022), 1);
+        due("has(0, 1023) then", long10.has(0, 1023), 0);
     }
 
     private static void promise9Length() {
@@ -335,6 +352,7 @@ public final class PromisesTest {
         LinearCodes long10 = Checks.withCode(10, 1023);
         due("weights(0, 10) of 1023", long10.weights(0, 10), 1);
         due("weights(0, 9) of 1023", long10.weights(0, 9), 0);
+        due("weights(0, 0) of 1023", long10.weights(0, 0), 1);
         for (int bad : Checks.BAD_CODES) {
             due("weights(" + bad + ", 0)", x.weights(bad, 0), BAD_ARG);
         }
@@ -377,6 +395,7 @@ public final class PromisesTest {
         due("leastWeight(0) of 3, 60", Checks.withCode(6, 3, 60).leastWeight(0), 2);
         due("leastWeight(0) of 1023", Checks.withCode(10, 1023).leastWeight(0), 10);
         due("leastWeight(0) of 512", Checks.withCode(10, 512).leastWeight(0), 1);
+        due("leastWeight(0) of 1", Checks.withCode(2, 1).leastWeight(0), 1);
         x.clear(1);
         due("leastWeight(1) after clear", x.leastWeight(1), NONE);
         for (int bad : Checks.BAD_CODES) {
@@ -402,6 +421,7 @@ public final class PromisesTest {
         due("nearest(0, 7), one from 3 and from 15", ties.nearest(0, 7), 3);
         due("nearest(0, 13), one from 12 and from 15", ties.nearest(0, 13), 12);
         due("nearest(0, 5), two from each", ties.nearest(0, 5), 0);
+        due("nearest(0, 3) of 1", Checks.withCode(2, 1).nearest(0, 3), 1);
 
         LinearCodes long10 = Checks.withCode(10, 1023);
         due("nearest(0, 1023)", long10.nearest(0, 1023), 1023);
@@ -456,6 +476,7 @@ public final class PromisesTest {
         due("radius(0) of the dual", x.radius(0), 3);
         x.dualize(1);
         due("radius(1) of all", x.radius(1), 0);
+        due("radius(0) beside all", x.radius(0), 3);
         due("radius(0) of 1023", Checks.withCode(10, 1023).radius(0), 5);
         due("radius(1) of 0", new LinearCodes(10).radius(1), 10);
         due("radius(0) of 511", Checks.withCode(9, 511).radius(0), 4);
@@ -488,6 +509,8 @@ public final class PromisesTest {
         due("isInformation(0, 2)", long10.isInformation(0, 2), 0);
         due("isInformation(0, 513)", long10.isInformation(0, 513), 0);
         due("isInformation(0, 0)", long10.isInformation(0, 0), 0);
+        due("isInformation(0, 1) of 1", Checks.withCode(10, 1).isInformation(0, 1), 1);
+        due("isInformation(0, 2) of 1", Checks.withCode(10, 1).isInformation(0, 2), 0);
         for (int bad : Checks.BAD_CODES) {
             due("isInformation(" + bad + ", 0)", x.isInformation(bad, 0), BAD_ARG);
         }
@@ -505,6 +528,7 @@ public final class PromisesTest {
         due("informationSets(0) of the dual", x.informationSets(0), 28);
         x.dualize(1);
         due("informationSets(1) of all", x.informationSets(1), 1);
+        due("informationSets(0) of 0 in 10 places", new LinearCodes(10).informationSets(0), 1);
         LinearCodes even = Checks.withCode(10, 1023);
         due("informationSets(0) of 1023", even.informationSets(0), 10);
         even.dualize(0);
@@ -526,6 +550,13 @@ public final class PromisesTest {
         x.shorten(0, 9);
         due("orthogonal() of places 0 to 8 and 512", x.orthogonal(), 1);
 
+        LinearCodes greatest = Checks.withCode(10, 1023);
+        greatest.add(1, 1);
+        due("orthogonal() of 1023 and 1", greatest.orthogonal(), 0);
+        LinearCodes least = Checks.withCode(10, 1);
+        least.add(1, 1023);
+        due("orthogonal() of 1 and 1023", least.orthogonal(), 0);
+
         LinearCodes words = Checks.withCode(4, 3);
         words.add(1, 3);
         due("orthogonal() of 3 and 3", words.orthogonal(), 1);
@@ -539,6 +570,25 @@ public final class PromisesTest {
         words.add(0, 15);
         due("orthogonal() of 3, 5, 15 and 7", words.orthogonal(), 0);
         Checks.due("both codes after orthogonal()", Checks.bothCodes(words), "0 3 5 6 9 10 12 15 | 0 7");
+    }
+
+    /** Also where the call is an object's first one. */
+    private static void everyCodeHasTheWord0() {
+        for (int c = 0; c <= 1; c++) {
+            LinearCodes[] x = new LinearCodes[5];
+            for (int i = 0; i < x.length; i++) {
+                x[i] = new LinearCodes(10);
+            }
+            due("first shorten", x[0].shorten(c, 0), 0);
+            due("first puncture", x[1].puncture(c, 0), 0);
+            due("first exchange", x[2].exchange(c, 0, 1), 0);
+            due("first meet", x[3].meet(), 0);
+            due("first clear", x[4].clear(c), 0);
+            for (LinearCodes each : x) {
+                due("has(" + c + ", 0) after a first call", each.has(c, 0), 1);
+                due("wordAt(" + c + ", 1) after a first call", each.wordAt(c, 1), NONE);
+            }
+        }
     }
 
     /** A bad code answers BAD_ARG even where another argument alone would answer 0 or NONE. */
